@@ -12,7 +12,7 @@ public final class ModelTest {
     private static final int CALLS = 512;
     private static final int NONE = -1;
 
-    private static final int[] NEAR = {0, 1, 2, 3, 4, 5, -1, 80, 81, Integer.MIN_VALUE, Integer.MAX_VALUE};
+    private static final int[] NEAR = {0, 1, 2, 3, 4, 7, 8, -1, 80, 81, Integer.MIN_VALUE, Integer.MAX_VALUE};
 
     private static long stirred = 1;
     private static int wrong = 0;

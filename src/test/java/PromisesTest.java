@@ -15,6 +15,13 @@ public final class PromisesTest {
     private static final int S = 7;
 
     private static final int[] NO_TOKENS = {};
+    private static final int[] ALL = {AND, AND, P, Q, AND, R, S};
+    private static final int[] NOT_ALL = {NOT, AND, AND, P, Q, AND, R, S};
+    // In logic 2 these have one value under assignment 0 and the other under all others.
+    private static final int[] NO_LETTER = {NOT, OR, OR, P, Q, OR, R, S};
+    private static final int[] SOME_LETTER = {NOT, NOT, OR, OR, P, Q, OR, R, S};
+    // Never 2 in any logic, and always 0 in logic 2.
+    private static final int[] NEVER = {AND, P, NOT, P};
     private static final int[] WRONG_WHICH = {-1, 2, 3, 9, LEAST, MOST};
 
     private static int wrong = 0;
@@ -341,7 +348,7 @@ public final class PromisesTest {
             due("8: not complete, find(1, " + v + ")", x.find(1, v), NONE);
             due("8: no tokens, find(0, " + v + ")", new ThreeValued(0).find(0, v), NONE);
         }
-        ThreeValued last = with(0, tokens(AND, AND, P, Q, AND, R, S), NO_TOKENS);
+        ThreeValued last = with(0, ALL, NO_TOKENS);
         due("8: the last assignment", last.find(0, 2), 80);
         due("8: all between", last.find(0, 1), 40);
     }
@@ -362,8 +369,9 @@ public final class PromisesTest {
         z.back(0);
         due("9: not complete", z.values(0), 0);
         due("9: no tokens", new ThreeValued(0).values(1), 0);
-        // Only the last assignment gives the value 2.
-        due("9: AND of all letters", with(1, NO_TOKENS, tokens(AND, AND, P, Q, AND, R, S)).values(1), 7);
+        due("9: 2 under the last assignment alone", with(1, NO_TOKENS, ALL).values(1), 7);
+        due("9: 2 under the first assignment alone", with(2, NO_LETTER, NO_TOKENS).values(0), 5);
+        due("9: 0 under the first assignment alone", with(2, SOME_LETTER, NO_TOKENS).values(0), 5);
     }
 
     private static void promise10Valid() {
@@ -389,8 +397,8 @@ public final class PromisesTest {
         x.back(0);
         due("10: not complete", x.valid(0), false);
         due("10: no tokens", new ThreeValued(0).valid(0), false);
-        // Never 2 and never 0 is not valid either: P AND NOT P has 0 and 1 alone.
-        due("10: P AND NOT P", with(0, tokens(AND, P, NOT, P), NO_TOKENS).valid(0), false);
+        due("10: never 2", with(0, NEVER, NO_TOKENS).valid(0), false);
+        due("10: not 2 under the first assignment alone", with(2, SOME_LETTER, NO_TOKENS).valid(0), false);
     }
 
     private static void promise11FindBoth() {
@@ -426,7 +434,7 @@ public final class PromisesTest {
         due("12: P AND Q, P", with(0, tokens(AND, P, Q), tokens(P)).entails(), true);
         due("12: P, P AND Q", with(0, tokens(P), tokens(AND, P, Q)).entails(), false);
         // A never has 2, so nothing is asked of B, though A is not below B.
-        due("12: P AND NOT P, Q", with(0, tokens(AND, P, NOT, P), tokens(Q)).entails(), true);
+        due("12: P AND NOT P, Q", with(0, NEVER, tokens(Q)).entails(), true);
         // Between is enough to break it: where P is 2, B is 1 or 2 but never 0.
         due("12: P, P AND (Q OR NOT Q)",
                 with(0, tokens(P), tokens(AND, P, OR, Q, NOT, Q)).entails(), false);
@@ -434,6 +442,8 @@ public final class PromisesTest {
         // In logic 2, NOT NOT makes 2 of between.
         due("12: NOT NOT P, P in logic 0", with(0, tokens(NOT, NOT, P), tokens(P)).entails(), true);
         due("12: NOT NOT P, P in logic 2", with(2, tokens(NOT, NOT, P), tokens(P)).entails(), false);
+        due("12: broken under the first assignment alone", with(2, NO_LETTER, NEVER).entails(), false);
+        due("12: broken under the last assignment alone", with(0, ALL, NOT_ALL).entails(), false);
         dueFalseUnlessComplete(12);
     }
 
@@ -444,10 +454,12 @@ public final class PromisesTest {
         due("13: P, P OR S", with(0, tokens(P), tokens(OR, P, S)).below(), true);
         due("13: P OR S, P", with(0, tokens(OR, P, S), tokens(P)).below(), false);
         // Entails is not enough: A is 1 where B is 0.
-        due("13: P AND NOT P, Q", with(0, tokens(AND, P, NOT, P), tokens(Q)).below(), false);
-        due("13: P AND NOT P, Q in logic 2", with(2, tokens(AND, P, NOT, P), tokens(Q)).below(), true);
+        due("13: P AND NOT P, Q", with(0, NEVER, tokens(Q)).below(), false);
+        due("13: P AND NOT P, Q in logic 2", with(2, NEVER, tokens(Q)).below(), true);
         due("13: P, NOT NOT P in logic 2", with(2, tokens(P), tokens(NOT, NOT, P)).below(), true);
         due("13: NOT NOT P, P in logic 2", with(2, tokens(NOT, NOT, P), tokens(P)).below(), false);
+        due("13: broken under the first assignment alone", with(2, NO_LETTER, NEVER).below(), false);
+        due("13: broken under the last assignment alone", with(0, ALL, NOT_ALL).below(), false);
         dueFalseUnlessComplete(13);
     }
 
@@ -464,6 +476,7 @@ public final class PromisesTest {
         due("14: IMPLIES and OR NOT in logic 2", with(2, implies, notOr).alike(), false);
         due("14: NOT NOT P, P in logic 1", with(1, tokens(NOT, NOT, P), tokens(P)).alike(), true);
         due("14: NOT NOT P, P in logic 2", with(2, tokens(NOT, NOT, P), tokens(P)).alike(), false);
+        due("14: broken under the first assignment alone", with(2, NO_LETTER, NEVER).alike(), false);
         dueFalseUnlessComplete(14);
     }
 
