@@ -565,7 +565,8 @@ public final class NothingChangesTest {
         refusedValid(B, s -> !s.whole(B));
     }
 
-    // The document names no wrong which here; there is then no formula that is complete.
+    // Promise 10 names no wrong which, but asks for a complete formula, and promise 6
+    // says that none is complete there.
     private static void promise10WhichWrong() {
         refusedValid(-1, ANY);
         refusedValid(2, ANY);
